@@ -261,6 +261,7 @@ public final class HawkRidge {
         return asKnown == NONE ? now : asKnown;
     }
 
+    /** Relies on its caller having paired the year, as totalOf does: so calls stay few levels deep. */
     private int missedOf(int year) {
         missed.clear();
         season.addHours(year, missed.open, missed.shut);

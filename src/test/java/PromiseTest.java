@@ -360,6 +360,19 @@ public final class PromiseTest {
         due("9 just the speed", meets(100, 30, 30, 200), true);
         due("9 the least speed", meets(1, 1, 1, 60), true);
         due("9 below the least speed", meets(1, 1, 1, 61), false);
+        HawkRidge x = ridge(100, 101, 301);
+        x.tell(0, 0, 0, 0, 0);
+        x.tell(0, 0, 60, 1, 0);
+        due("9 any bird's slowest", x.partner(0), 1);
+        x.tell(0, 1, 0, 0, 0);
+        x.tell(0, 1, 61, 1, 0);
+        due("9 slower than any bird", x.partner(2), -1);
+        x.tell(0, 2, 0, 1, 0);
+        x.tell(0, 2, 30, 2, 0);
+        due("9 any bird's fastest", x.partner(4), 5);
+        x.tell(0, 3, 0, 1, 0);
+        x.tell(0, 3, 29, 2, 0);
+        due("9 faster than any bird", x.partner(6), -1);
     }
 
     private static void partnerKinds() {
@@ -412,6 +425,23 @@ public final class PromiseTest {
         none.tell(0, 0, 10, 1, 0);
         due("9 the first one has it", none.partner(0), 2);
         due("9 the second has none", none.partner(1), -1);
+
+        HawkRidge chain = ridge(0, 60);
+        chain.kind(0, 60, 60);
+        chain.tell(0, 0, 0, 0, 0);
+        chain.tell(0, 0, 10, 0, 1);
+        chain.tell(0, 0, 20, 0, 1);
+        chain.tell(0, 0, 70, 1, 0);
+        chain.tell(0, 0, 80, 1, 0);
+        chain.tell(0, 0, 15, 1, 0);
+        due("9 the others make it good, 0", chain.partner(0), 5);
+        due("9 the others make it good, 1", chain.partner(1), 3);
+        due("9 the others make it good, 2", chain.partner(2), 4);
+        chain.tell(0, 0, 0, 0, 0);
+        due("9 one that had none makes it good, 0", chain.partner(0), 3);
+        due("9 one that had none makes it good, 1", chain.partner(1), -1);
+        due("9 one that had none makes it good, 2", chain.partner(2), 4);
+        due("9 one that had none makes it good, 6", chain.partner(6), 5);
 
         HawkRidge all = ridge(0, 60);
         for (int i = 0; i < 12; i++) {
@@ -555,6 +585,11 @@ public final class PromiseTest {
         due("11 nothing for none", birds(x, 0, 2, 2), 0);
         due("11 all from both", birds(x, 0, 3, 2), 8);
         due("11 none from 0", birds(x, 0, 4, 2), 0);
+        HawkRidge two = ridge(0);
+        two.kind(0, 1, 400);
+        two.kind(0, 1, 400);
+        tellMany(two, 0, 0, 0, 25);
+        dueNumbers(two, 0, 13, 12);
     }
 
     private static void year() {
@@ -620,6 +655,12 @@ public final class PromiseTest {
             x.tell(3, 0, i, 0, 0);
         }
         due("12 many", x.year(3, 4), 12 * 110 * 1000 / 190);
+
+        x.tell(4, 0, 0, 0, 0);
+        x.tell(4, 1, 0, 0, 0);
+        x.wind(4, 0, 2);
+        shutDay(x, 4, 0, 1);
+        due("12 one HOUR of that wind", x.year(4, 4), 9000);
     }
 
     private static void passage() {
@@ -635,6 +676,7 @@ public final class PromiseTest {
         due("13 year 6", x.passage(6, 0, 0), -1);
         due("13 kind -1", x.passage(0, -1, 0), -1);
         due("13 kind 3", x.passage(0, 3, 0), -1);
+        due("13 kind 32", x.passage(0, 32, 0), -1);
         due("13 what -1", x.passage(0, 0, -1), -1);
         due("13 what 3", x.passage(0, 0, 3), -1);
         due("13 FIRST", x.passage(0, 0, 0), 30);
