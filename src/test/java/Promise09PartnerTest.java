@@ -1,3 +1,6 @@
+import java.util.Arrays;
+import java.util.Random;
+
 /** Promise 9: partner, and when two TELLINGS MEET and are PAIRED. */
 public final class Promise09PartnerTest {
     public static void main(String[] args) {
@@ -291,6 +294,70 @@ public final class Promise09PartnerTest {
             Checks.due("no other", x.partner(i), -1);
         }
         Checks.due("the first of twelve above", x.partner(13), 14);
+    }
+
+    private static final int[][] SPEEDS = {{1, 400}, {60, 60}, {90, 400}, {1, 72}};
+
+    /** Small crowds, drawn by a fixed seed, against every way there is to pair them. */
+    static void theFirstOfAllWaysThereAre() {
+        Random random = new Random(20261117);
+        for (int round = 0; round < 10000; round++) {
+            int lower = 1 + random.nextInt(8);
+            int upper = 1 + random.nextInt(5);
+            Watch x = Watch.at(0, 60);
+            for (int kind = 1; kind < SPEEDS.length; kind++) {
+                x.kind(0, SPEEDS[kind][0], SPEEDS[kind][1]);
+            }
+            int[] minutes = new int[lower + upper];
+            int[] kinds = new int[lower + upper];
+            for (int t = 0; t < lower + upper; t++) {
+                int post = t < lower ? 0 : 1;
+                minutes[t] = 5 * random.nextInt(18) + 40 * post;
+                kinds[t] = random.nextInt(SPEEDS.length);
+                x.tell(0, 0, minutes[t], post, kinds[t]);
+            }
+            int[] best = new int[lower + 1];
+            Arrays.fill(best, -1);
+            firstWay(meetings(lower, minutes, kinds), 0, new int[lower + 1], 0, best);
+            for (int s = 0; s < lower; s++) {
+                int want = best[s] == upper ? -1 : lower + best[s];
+                Checks.due("round " + round + ", partner(" + s + ")", x.partner(s), want);
+            }
+        }
+    }
+
+    private static boolean[][] meetings(int lower, int[] minutes, int[] kinds) {
+        boolean[][] meet = new boolean[lower][minutes.length - lower];
+        for (int s = 0; s < lower; s++) {
+            for (int t = lower; t < minutes.length; t++) {
+                int m = minutes[t] - minutes[s];
+                int[] speed = SPEEDS[Math.max(kinds[s], kinds[t])];
+                boolean isUnder = kinds[s] == kinds[t] || kinds[s] == 0 || kinds[t] == 0;
+                meet[s][t - lower] = isUnder && m >= 1 && 3600 >= speed[0] * m && 3600 <= speed[1] * m;
+            }
+        }
+        return meet;
+    }
+
+    /** Tries the ways from the first one on (none last), so only one with more pairs is better. */
+    private static void firstWay(boolean[][] meet, int s, int[] way, int gone, int[] best) {
+        int lower = meet.length;
+        int upper = meet[0].length;
+        if (s == lower) {
+            way[lower] = Integer.bitCount(gone);
+            if (way[lower] > best[lower]) {
+                System.arraycopy(way, 0, best, 0, way.length);
+            }
+            return;
+        }
+        for (int t = 0; t < upper; t++) {
+            if (meet[s][t] && (gone >> t & 1) == 0) {
+                way[s] = t;
+                firstWay(meet, s + 1, way, gone | 1 << t, best);
+            }
+        }
+        way[s] = upper;
+        firstWay(meet, s + 1, way, gone, best);
     }
 
     static void aNewTellingPairsAnew() {

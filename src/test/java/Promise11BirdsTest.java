@@ -212,6 +212,14 @@ public final class Promise11BirdsTest {
         numbers(x, 0, 8, 7, 7, 1);
     }
 
+    /** KIND 4 has a rest of what KIND 0 parts, but none of what KIND 1 parts. */
+    static void eachDoubtfulKindHasRestsOfItsOwn() {
+        Watch x = withKinds(0, 1, 1, 0);
+        x.tellMany(0, 0, 0, 2);
+        x.tellMany(0, 1, 1, 1);
+        numbers(x, 0, 3, 3, 2, 1, 0);
+    }
+
     static void threeHundredBirds() {
         Watch x = withKinds(0, 0, 0);
         x.tellMany(0, 0, 0, 100);

@@ -110,6 +110,16 @@ public final class Promise12YearTest {
         Checks.due("an open HOUR, no bird of that wind", x.year(1, 4), 20000 / 271);
     }
 
+    static void oneOpenHourOfThatWindIsEnough() {
+        Watch x = Watch.at(0);
+        x.wind(0, 0, 2);
+        x.shut(0, 0, 1, 9);
+        x.tell(0, 1, 0, 0, 0);
+        Checks.due("no bird in it", x.year(0, 4), 0);
+        x.tell(0, 0, 0, 0, 0);
+        Checks.due("a bird in it", x.year(0, 4), 9000);
+    }
+
     static void aWindWithoutDaysCountsNothing() {
         Watch x = Watch.at(0);
         for (int day = 0; day < 30; day++) {
