@@ -35,6 +35,8 @@ public final class FaceTest {
         "\\bSystem\\.(?!arraycopy)", "\\bThread\\b", "\\bRandom\\b", "\\bpackage\\b", "\\bprotected\\b",
         "\\bvar\\b", "\\bObject\\b", "\\bdouble\\b", "\\bfloat\\b", "static \\{", "\\bpublic static class\\b",
         "[^\\x00-\\x7f]"};
+    /** All calls of a run share one room: so calls make nothing but what they throw. */
+    private static final String MAY_MAKE = " {8}private final .* = new .*| {8}\\w+ = new .*| *throw new .*";
     private static int wrong = 0;
 
     private static void due(boolean holds, String what) {
@@ -108,6 +110,7 @@ public final class FaceTest {
         }
         int length = 0;
         for (String line : text.split("\n")) {
+            due(!line.contains("new ") || line.matches(MAY_MAKE), "made by a call, not once by a constructor: " + line);
             length = line.matches(" {4}( {4})?(private|public) .*\\{") ? 0 : length + 1;
             due(length <= 60 || line.isBlank(), "a method of over 60 lines at: " + line);
         }
